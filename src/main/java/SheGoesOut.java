@@ -1049,7 +1049,7 @@ public final class SheGoesOut {
 
         private final int[] houses = new int[MOST_HOUSES];
         private int houseCount = 0;
-        // How many of the HOUSES tried stand at each CELL, so that its PARTS count once.
+        // How many of the HOUSES tried stand at each CELL, so that its PARTS count once; all 0 between calls.
         private final int[] ears = new int[CELLS];
         private final int[] tried = new int[MOST];
         private int wanted = 0;
@@ -1058,7 +1058,6 @@ public final class SheGoesOut {
 
         void choose(State state, int k) {
             findHouses(state.land);
-            Arrays.fill(ears, 0);
             wanted = Math.min(k, MOST);
             most = -1;
             tell(state.night, 0, 0, 0L);

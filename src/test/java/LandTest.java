@@ -77,6 +77,8 @@ final class LandTest {
         Check.due("P3", x.draw(0, 4), 9);
         Check.due("P3", x.draw(143, 1), 0);
         Check.due("P3", x.told(0, 1), 4);
+        Check.due("P3 0", x.draw(143, 0), 1);
+        Check.due("P3 0", x.told(143, 1), 0);
         Check.due("P3 10", x.draw(0, 10), -1);
         Check.due("P3 -1", x.draw(0, -1), -1);
         Check.due("P3 cell", x.draw(-1, 0), -1);
@@ -138,7 +140,8 @@ final class LandTest {
         Check.due("P7 a higher byte", x.type((31L << 8) | 'o', 2), -1);
         Check.due("P7 the highest byte", x.type(((long) 128 << 56) | 0x6f6f6f6f6f6f6fL, 8), -1);
         Check.due("P7 0", x.type('o', 0), -1);
-        Check.due("P7 9", x.type('o', 9), -1);
+        Check.due("P7 9", x.type(0x6f6f6f6f6f6f6f6fL, 9), -1);
+        Check.due("P7 greatest int", x.type(0x6f6f6f6f6f6f6f6fL, Integer.MAX_VALUE), -1);
         Check.due("P7 -1", x.type('o', -1), -1);
         Check.due("P7 nothing came", x.type('o', 1), 4);
         x.land();
@@ -297,18 +300,7 @@ final class LandTest {
         x.sheet(0, 2, 3);
         Check.type(x, "o");
         x.kind(-1, 0);
-        x.kind(1, 6);
-        x.draw(2, 6);
-        x.set(6, 0);
-        x.sits(1, 7);
-        x.night(3);
-        x.search(3, 50);
-        x.clear();
-        for (int i = 0; i < 3; i++) x.found(1, 1, 1);
-        x.measure(9, 9);
-        x.team(3, 1, 1);
-        x.place(9);
-        x.job(9, 3, 60);
+        fillOtherwise(x);
         Check.due("P38", x.restore(), 1);
         Check.due("P38 kind", x.told(1, 0), 2);
         Check.due("P38 draw", x.told(2, 1), 3);
@@ -317,18 +309,21 @@ final class LandTest {
         Check.due("P38 minute", x.count(0), 0);
         Check.due("P38 parts", x.parts(0, 2), 1L << 38);
         Check.due("P38 together", x.odds(0, 1), 1);
-        Check.due("P38 teams", x.count(1), 1);
+        Check.due("P38 teams", x.count(1), 2);
         Check.due("P38 places", x.count(2), 1);
-        Check.due("P38 jobs", x.count(3), 1);
+        Check.due("P38 jobs", x.count(3), 2);
         Check.due("P38 book", x.count(4), 2);
         Check.due("P38 measures", x.count(5), 2);
-        Check.due("P38 whom", x.whom(-1), (1L << 38) * 12 / 16 * 1000);
-        Check.due("P38 order", x.order(-1), (1L << 38) * 12 / 16 * 1000);
+        // Alive to 60, then 11 less each: the dog comes at 66, EYES at 88; then EYES end at 60, the dog at 80.
+        Check.due("P38 whom", x.whom(-1), (1L << 34) * 12 * 934);
+        Check.due("P38 bound", x.bound(), (1L << 34) * (12 * 934 + 14 * 692));
+        Check.due("P38 order", x.order(-1), (1L << 34) * (14 * 1000 + 12 * 780));
+        Check.due("P38 order", x.order(0), 1);
         Check.due("P38 span", x.span(0, 4), 44);
         Check.due("P38 share", x.share(2, 1), 10);
         Check.due("P38 leaves", x.leaves(3, 1), 16);
         Check.due("P38 shuts", x.least(12, 1), 2);
-        Check.due("P38 setting", x.set(6, 0), 3);
+        Check.due("P38 setting", x.set(7, 0), 9);
         Check.due("P38 sits", x.sits(1, 0), 0);
         Check.due("P37 the tape is no part", x.type('x', 1), 2);
         Check.due("P37 sheets are no part", x.drop(0), 3);
@@ -338,16 +333,36 @@ final class LandTest {
     private static void fill(SheGoesOut x) {
         x.kind(1, 2);
         x.draw(2, 3);
-        x.set(6, 3);
+        x.set(6, 0);
+        x.set(7, 9);
         x.start(0, 2);
         x.search(1, 0);
-        x.team(1, 0, 1);
+        x.team(1, 143, 3);
+        x.team(2, 143, 4);
         x.place(0);
-        x.job(0, 1, 1);
+        x.job(0, 1, 20);
+        x.job(0, 2, 60);
         x.found(0, 44, 2);
         x.found(0, 3, 2);
         x.measure(4, 2);
         x.measure(12, 5);
+    }
+
+    private static void fillOtherwise(SheGoesOut x) {
+        x.kind(1, 6);
+        x.draw(2, 6);
+        x.set(7, 0);
+        x.sits(1, 7);
+        x.night(3);
+        x.search(3, 50);
+        x.clear();
+        for (int i = 0; i < 3; i++) {
+            x.found(1, 1, 1);
+            x.team(3, 1, 1);
+            x.place(9 + i);
+            x.job(9, 3, 5);
+        }
+        x.measure(9, 9);
     }
 
     private static void status() {

@@ -27,6 +27,7 @@ final class NightTest {
         sees();
         search();
         searchByEach();
+        onePartLeft();
         alive();
         Check.close();
     }
@@ -428,6 +429,28 @@ final class NightTest {
         for (int what = 0; what < 5; what++) {
             Check.due("P17 each by itself " + what, x.parts(0, what), were[what] - were[what] * (what == 4 ? 4 : 8) / 16);
         }
+    }
+
+    /** One of 2^40 is still one. */
+    private static void onePartLeft() {
+        SheGoesOut x = new SheGoesOut();
+        x.start(0, 0);
+        for (int i = 0; i < 10; i++) x.call(143, 0, 15);
+        Check.due("P24 one is left", x.parts(0, 5), 1);
+        Check.due("P13 one", x.odds(0, 0), 1);
+        Check.due("P13 one", x.odds(0, 1), 1);
+        Check.due("P14 one", x.where(0), 0);
+        Check.due("P17 one, cut", x.search(1, 0), 0);
+        Check.due("P17 one stays", x.parts(0, 5), 1);
+        Check.due("P24 one", x.call(0, 0, 15), 1000);
+        Check.due("P25 one", x.truly(0, 0, 15, 1), 2161);
+        x.sheet(0, 3, 12);
+        Check.due("P41 one", x.film(0, 0, 3, 0), 12);
+        x.sits(0, 0);
+        Check.due("P11 one", x.night(1), 1);
+        Check.due("P11 one, cut, sits", x.where(1), 0);
+        Check.due("P24 none", x.call(143, 0, 1), 0);
+        Check.due("P13 none", x.odds(0, 0), -4);
     }
 
     private static void alive() {

@@ -13,6 +13,7 @@ final class TeamsTest {
         bound();
         again();
         againLine();
+        againOfLikeOnes();
         againOfAll();
         call();
         callByEach();
@@ -217,6 +218,21 @@ final class TeamsTest {
         Check.due("P23 more than in any other", x.again(3, 1), 1);
         x.kind(12, 3);
         Check.due("P23 a dog sees no WALL", x.again(1, 0), 1);
+    }
+
+    private static void againOfLikeOnes() {
+        SheGoesOut x = outAt(0);
+        x.night(1);
+        // CELLS 0 and 12 a quarter each; CELL 1 becomes a WALL, of which nothing is seen.
+        x.kind(1, 3);
+        x.kind(12, 3);
+        x.search(1, 12);
+        x.kind(12, 0);
+        Check.due("P23", x.again(1, 0), 12);
+        Check.due("P23 as many are not more", x.again(1, 1), 0);
+        x.search(3, 0);
+        Check.due("P23 ASKERS saw none that sit", x.again(1, 0), 0);
+        Check.due("P23", x.again(1, 1), 1);
     }
 
     private static void againOfAll() {
