@@ -291,6 +291,17 @@ final class LandTest {
         x.kind(5, 2);
         x.restore();
         Check.due("P37 the newer", x.told(5, 0), 7);
+        x.start(143, 3);
+        x.draw(143, 8);
+        x.search(1, 143);
+        x.image();
+        x.start(0, 0);
+        x.draw(143, 1);
+        x.restore();
+        Check.due("P38 the last CELL", x.parts(143, 3), 1L << 38);
+        Check.due("P38 the last CELL", x.parts(0, 5), 0);
+        Check.due("P38 the last CELL", x.told(143, 1), 8);
+        Check.due("P38 the last CELL", x.told(143, 2), 1);
     }
 
     private static void imageKeepsAll() {
@@ -320,6 +331,7 @@ final class LandTest {
         Check.due("P38 order", x.order(-1), (1L << 34) * (14 * 1000 + 12 * 780));
         Check.due("P38 order", x.order(0), 1);
         Check.due("P38 span", x.span(0, 4), 44);
+        Check.due("P38 share", x.share(2, 0), 3);
         Check.due("P38 share", x.share(2, 1), 10);
         Check.due("P38 leaves", x.leaves(3, 1), 16);
         Check.due("P38 shuts", x.least(12, 1), 2);

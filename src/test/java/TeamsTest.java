@@ -306,6 +306,11 @@ final class TeamsTest {
         // 8 times 144 by that and 8 times 4 CELLS (a corner): 144 by 148.
         Check.due("P25 corner", x.truly(0, 1, 8, 0), 36);
         Check.due("P25 corner", x.truly(0, 1, 8, 1), 37);
+        // The last corner hears as the first does.
+        x.start(132, 0);
+        Check.due("P25 corner", x.truly(132, 1, 8, 0), 36);
+        Check.due("P25 corner", x.truly(132, 1, 8, 1), 37);
+        x.start(0, 0);
         // 15 times 144 by that and 1 times 9 CELLS: 240 by 241.
         Check.due("P25", x.truly(13, 1, 15, 0), 240);
         Check.due("P25", x.truly(13, 1, 15, 1), 241);
