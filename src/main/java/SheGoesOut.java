@@ -73,13 +73,11 @@ public final class SheGoesOut {
     }
 
     public int land() {
-        int answer = tape.readLand(now.land);
-        return answer < 0 ? refuse(answer) : answer;
+        return answered(tape.readLand(now.land));
     }
 
     public int rules() {
-        int answer = tape.readLaw(now.law);
-        return answer < 0 ? refuse(answer) : answer;
+        return answered(tape.readLaw(now.law));
     }
 
     // ---- 2 nights, searches
@@ -161,15 +159,12 @@ public final class SheGoesOut {
 
     public int team(int sort, int cell, int pace) {
         if (!isSort(sort) || !isCell(cell) || !isIn(pace, 1, 9)) return refuse(BAD);
-        if (now.teams.count >= Teams.MOST) return refuse(FULL);
-        return now.teams.addTeam(sort, cell, pace);
+        return answered(now.teams.addTeam(sort, cell, pace));
     }
 
     public int place(int cell) {
         if (!isCell(cell)) return refuse(BAD);
-        if (now.teams.placeCount >= Teams.MOST_PLACES) return refuse(FULL);
-        if (now.teams.hasPlace(cell)) return refuse(NOT);
-        return now.teams.addPlace(cell);
+        return answered(now.teams.addPlace(cell));
     }
 
     public long whom(int i) {
@@ -215,8 +210,7 @@ public final class SheGoesOut {
 
     public int job(int cell, int sort, int minutes) {
         if (!isCell(cell) || !isSort(sort) || !isIn(minutes, 1, 60)) return refuse(BAD);
-        if (now.jobs.count >= Jobs.MOST) return refuse(FULL);
-        return now.jobs.add(cell, sort, minutes);
+        return answered(now.jobs.add(cell, sort, minutes));
     }
 
     public long order(int i) {
@@ -231,8 +225,7 @@ public final class SheGoesOut {
 
     public int found(int age, int far, int kind) {
         if (!Book.isAsTold(age, far, kind)) return refuse(BAD);
-        if (now.book.count >= Book.MOST) return refuse(FULL);
-        return now.book.add(age, far, kind);
+        return answered(now.book.add(age, far, kind));
     }
 
     public int share(int kind, int part) {
@@ -252,8 +245,7 @@ public final class SheGoesOut {
 
     public int measure(int keeps, int shuts) {
         if (!isIn(keeps, 0, 15) || !isIn(shuts, 0, 15)) return refuse(BAD);
-        if (now.door.count >= Door.MOST) return refuse(FULL);
-        return now.door.add(keeps, shuts);
+        return answered(now.door.add(keeps, shuts));
     }
 
     public long leaves(int set, int part) {
@@ -402,6 +394,10 @@ public final class SheGoesOut {
         return a;
     }
 
+    private int answered(int answer) {
+        return answer < 0 ? refuse(answer) : answer;
+    }
+
     private int refuse(int answer) {
         int reason = reasonOf(answer);
         if (isIn(reason, 0, REASONS - 1) && refused[reason] < MOST_COUNTED) refused[reason]++;
@@ -537,6 +533,13 @@ public final class SheGoesOut {
                 case 2: return cell >= CELLS - WIDTH ? -1 : cell + WIDTH;
                 default: return cell % WIDTH == 0 ? -1 : cell - 1;
             }
+        }
+
+        /** The i-th (0 .. 8) of the CELLS no farther than 1, itself among them; -1: there is none. */
+        static int neighbour(int cell, int i) {
+            int row = cell / WIDTH + i / 3 - 1;
+            int column = cell % WIDTH + i % 3 - 1;
+            return isIn(row, 0, WIDTH - 1) && isIn(column, 0, WIDTH - 1) ? row * WIDTH + column : -1;
         }
 
         static int rowsApart(int a, int b) {
@@ -682,6 +685,7 @@ public final class SheGoesOut {
             int stop = ride > 0 ? land.nextStop(cell) : cell;
             for (int side = 0; side < SIDES; side++) {
                 long parts = going[cell * SIDES + side];
+                if (parts <= 0) continue;
                 long whole = sit + ride + pulls(law, side);
                 long gone = turn(law, cell, side, whole) + arrive(stop, side, portion(parts, ride, whole));
                 sitting[cell] += parts - gone;
@@ -790,7 +794,7 @@ public final class SheGoesOut {
             return count++;
         }
 
-        boolean hasPlace(int cell) {
+        private boolean hasPlace(int cell) {
             for (int p = 0; p < placeCount; p++) {
                 if (places[p] == cell) return true;
             }
@@ -799,6 +803,7 @@ public final class SheGoesOut {
 
         int addPlace(int cell) {
             if (placeCount >= MOST_PLACES) return FULL;
+            if (hasPlace(cell)) return NOT;
             places[placeCount] = cell;
             return placeCount++;
         }
@@ -1045,7 +1050,7 @@ public final class SheGoesOut {
     /** Which neighbours to tell. */
     private static final class Net {
         static final int MOST = 4;
-        private static final int MOST_HOUSES = 10;
+        private static final int MOST_HOUSES = 10, NEIGHBOURS = 9;
 
         private final int[] houses = new int[MOST_HOUSES];
         private int houseCount = 0;
@@ -1089,15 +1094,17 @@ public final class SheGoesOut {
 
         private long hear(Night night, int house) {
             long more = 0;
-            for (int cell = 0; cell < CELLS; cell++) {
-                if (Land.isNear(house, cell, 1) && ears[cell]++ == 0) more += night.together(cell);
+            for (int i = 0; i < NEIGHBOURS; i++) {
+                int cell = Land.neighbour(house, i);
+                if (cell >= 0 && ears[cell]++ == 0) more += night.together(cell);
             }
             return more;
         }
 
         private void forget(int house) {
-            for (int cell = 0; cell < CELLS; cell++) {
-                if (Land.isNear(house, cell, 1)) ears[cell]--;
+            for (int i = 0; i < NEIGHBOURS; i++) {
+                int cell = Land.neighbour(house, i);
+                if (cell >= 0) ears[cell]--;
             }
         }
     }

@@ -26,6 +26,7 @@ final class BookTest {
         Check.due("P28", x.found(0, 0, 8), -1);
         for (int i = 1; i <= 60; i++) Check.due("P28", x.found(i % 4, i, i % 8), i);
         Check.due("P28 full", x.found(3, 99, 7), -3);
+        Check.due("P28 it counts", x.status(2), 1);
         Check.due("P28 BAD first", x.found(3, 100, 7), -1);
         Check.due("P28", x.count(4), 60);
     }
@@ -115,6 +116,7 @@ final class BookTest {
         Check.due("P32", x.measure(0, 16), -1);
         for (int i = 0; i < 8; i++) Check.due("P32", x.measure(15 - i, 15 - 2 * i), i);
         Check.due("P32 full", x.measure(0, 0), -3);
+        Check.due("P32 it counts", x.status(2), 1);
         Check.due("P32 BAD first", x.measure(16, 0), -1);
         Check.due("P32", x.count(5), 8);
     }

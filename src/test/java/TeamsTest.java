@@ -45,6 +45,7 @@ final class TeamsTest {
         Check.due("P19", x.team(1, 0, 1), 2);
         Check.due("P19", x.team(1, 0, 1), 3);
         Check.due("P19 full", x.team(1, 0, 1), -3);
+        Check.due("P19 it counts", x.status(2), 1);
         Check.due("P19 BAD first", x.team(1, 0, 10), -1);
         Check.due("P19", x.count(1), 4);
     }
@@ -59,6 +60,8 @@ final class TeamsTest {
         for (int i = 2; i < 6; i++) Check.due("P20", x.place(i), i);
         Check.due("P20 full", x.place(100), -3);
         Check.due("P20 FULL ahead of NOT", x.place(0), -3);
+        Check.due("P20 they count", x.status(2), 2);
+        Check.due("P20 it counts", x.status(1), 1);
         Check.due("P20 BAD first", x.place(144), -1);
         Check.due("P20", x.count(2), 6);
     }
@@ -332,6 +335,7 @@ final class TeamsTest {
         Check.due("P26", x.job(0, 0, 61), -1);
         for (int i = 0; i < 6; i++) Check.due("P26", x.job(143, 3, 60), i);
         Check.due("P26 full", x.job(0, 0, 1), -3);
+        Check.due("P26 it counts", x.status(2), 1);
         Check.due("P26 BAD first", x.job(0, 0, 61), -1);
         Check.due("P26", x.count(3), 6);
     }
