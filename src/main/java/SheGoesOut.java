@@ -1138,7 +1138,6 @@ public final class SheGoesOut {
         }
 
         int readLand(Land land) {
-            dropBlanks();
             int fault = landFault();
             int answer = fault < 0 ? layOut(land) : FAULT - fault;
             size = 0;
@@ -1146,32 +1145,26 @@ public final class SheGoesOut {
         }
 
         int readLaw(Law law) {
-            dropBlanks();
             int fault = lawFault();
             int answer = fault < 0 ? layDown(law) : FAULT - fault;
             size = 0;
             return answer;
         }
 
-        /** Blanks do not count, in the places of FAULTS either. */
-        private void dropBlanks() {
-            int kept = 0;
-            for (int i = 0; i < size; i++) {
-                if (bytes[i] != BLANK) bytes[kept++] = bytes[i];
-            }
-            size = kept;
-        }
-
         private int digitAt(int i) {
             return bytes[i] >= '0' && bytes[i] <= '9' ? bytes[i] - '0' : -1;
         }
 
-        /** The place of the first byte that can't stand there; -1: all can. */
+        /**
+         * The place on THE TAPE of the first byte that can't stand there; -1: all can. Blanks can stand anywhere,
+         * but are bytes of THE TAPE: they are passed over, not taken out, so that places stay what they are.
+         */
         private int landFault() {
             int row = 0;
             int width = 0;
             boolean digitFits = false;
             for (int i = 0; i < size; i++) {
+                if (bytes[i] == BLANK) continue;
                 int digit = digitAt(i);
                 if (KIND_LETTERS.indexOf(bytes[i]) >= 0 && width < WIDTH) {
                     width++;
@@ -1197,6 +1190,7 @@ public final class SheGoesOut {
             int ofKind = 0;
             int cells = 0;
             for (int i = 0; i < size; i++) {
+                if (bytes[i] == BLANK) continue;
                 if (bytes[i] == '/') {
                     row++;
                     column = 0;
@@ -1212,28 +1206,39 @@ public final class SheGoesOut {
             return cells;
         }
 
-        /** The place of the first byte that can't stand there; -1: all can. */
+        /** The place on THE TAPE of the first byte that can't stand there; -1: all can. */
         private int lawFault() {
             int set = 0;
+            boolean digitDue = false;
             for (int i = 0; i < size; i++) {
-                if (i % 2 == 1) {
+                if (bytes[i] == BLANK) continue;
+                if (digitDue) {
                     if (digitAt(i) < 0) return i;
-                    continue;
+                } else {
+                    int setting = SETTING_LETTERS.indexOf(bytes[i]);
+                    if (setting < 0 || (set & 1 << setting) != 0) return i;
+                    set |= 1 << setting;
                 }
-                int setting = SETTING_LETTERS.indexOf(bytes[i]);
-                if (setting < 0 || (set & 1 << setting) != 0) return i;
-                set |= 1 << setting;
+                digitDue = !digitDue;
             }
-            return size > 0 && size % 2 == 0 ? -1 : size;
+            return set != 0 && !digitDue ? -1 : size;
         }
 
         /** A LAW without a FAULT becomes so; how many SETTINGS. */
         private int layDown(Law law) {
-            for (int i = 0; i + 1 < size; i += 2) {
-                int setting = SETTING_LETTERS.indexOf(bytes[i]);
-                if (setting >= 0) law.settings[setting] = digitAt(i + 1);
+            int setting = -1;
+            int set = 0;
+            for (int i = 0; i < size; i++) {
+                if (bytes[i] == BLANK) continue;
+                int digit = digitAt(i);
+                if (digit < 0) {
+                    setting = SETTING_LETTERS.indexOf(bytes[i]);
+                } else if (setting >= 0) {
+                    law.settings[setting] = digit;
+                    set++;
+                }
             }
-            return size / 2;
+            return set;
         }
     }
 

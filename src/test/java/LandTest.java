@@ -15,9 +15,11 @@ final class LandTest {
         type();
         land();
         landFaults();
+        landFaultsAmongBlanks();
         landKeepsTheRest();
         rules();
         rulesFaults();
+        rulesFaultsAmongBlanks();
         clear();
         image();
         imageKeepsAll();
@@ -182,10 +184,8 @@ final class LandTest {
         SheGoesOut x = new SheGoesOut();
         Check.land(x, "e9");
         Check.due("P8 nothing", x.land(), -20);
-        Check.due("P8 blanks only", Check.land(x, "   "), -20);
         Check.due("P8 /", Check.land(x, "/o"), -20);
         Check.due("P8 end behind /", Check.land(x, "o/"), -22);
-        Check.due("P8 end, blanks do not count", Check.land(x, " o / "), -22);
         Check.due("P8 two /", Check.land(x, "o//o"), -22);
         Check.due("P8 a digit ahead", Check.land(x, "3o"), -20);
         Check.due("P8 a digit first in a row", Check.land(x, "o/3o"), -22);
@@ -196,11 +196,35 @@ final class LandTest {
         Check.due("P8 13 by a letter", Check.land(x, "o9o3p"), -24);
         Check.due("P8 13 by a digit", Check.land(x, "o9o4"), -23);
         Check.due("P8 13 by a digit at the edge", Check.land(x, "o9o2o2"), -25);
-        Check.due("P8 blanks do not count", Check.land(x, "o 9 o 4"), -23);
         Check.due("P8 13 rows", Check.land(x, "o/o/o/o/o/o/o/o/o/o/o/o/o"), -43);
         for (int cell = 0; cell < 9; cell++) Check.due("P8 stays", x.told(cell, 0), 7);
         Check.due("P8 a FAULT empties", x.land(), -20);
-        Check.due("P8 counted", x.status(8), 18);
+        Check.due("P8 counted", x.status(8), 15);
+    }
+
+    private static void landFaultsAmongBlanks() {
+        SheGoesOut x = new SheGoesOut();
+        Check.land(x, "e9");
+        Check.due("P8 one blank", Check.land(x, " "), -21);
+        Check.due("P8 blanks only", Check.land(x, "   "), -23);
+        Check.due("P8 the tape full of blanks", Check.land(x, " ".repeat(160)), -180);
+        Check.due("P8 the end behind / and blanks", Check.land(x, " o / "), -25);
+        Check.due("P8 the end behind a blank", Check.land(x, "o/ "), -23);
+        Check.due("P8 / behind a blank", Check.land(x, " /o"), -21);
+        Check.due("P8 two /, a blank between", Check.land(x, "o/ /o"), -23);
+        Check.due("P8 a digit behind blanks", Check.land(x, "  3o"), -22);
+        Check.due("P8 two digits, a blank between", Check.land(x, "o1 1"), -23);
+        Check.due("P8 0 behind a blank", Check.land(x, "o 0"), -22);
+        Check.due("P8 no letter", Check.land(x, " o p  x "), -26);
+        Check.due("P8 13 by a letter", Check.land(x, "o9 o3 p"), -26);
+        Check.due("P8 13 by a digit", Check.land(x, "o 9 o 4"), -26);
+        Check.due("P8 13 rows", Check.land(x, "o/ o/o/o/o/o/o/o/o/o/o/o /o"), -45);
+        Check.due("P8 the last byte of a full tape", Check.land(x, " ".repeat(159) + "x"), -179);
+        for (int cell = 0; cell < 9; cell++) Check.due("P8 stays", x.told(cell, 0), 7);
+        Check.due("P8 a FAULT empties", x.land(), -20);
+        Check.due("P8 counted", x.status(8), 16);
+        Check.due("P8 the last letter of a full tape", Check.land(x, " ".repeat(159) + "m"), 1);
+        Check.due("P8 the last letter of a full tape", x.told(0, 0), 3);
     }
 
     private static void landKeepsTheRest() {
@@ -243,11 +267,30 @@ final class LandTest {
         Check.due("P9 no letter", Check.rules(x, "a1x2"), -22);
         Check.due("P9 a digit first", Check.rules(x, "1a"), -20);
         Check.due("P9 seven", Check.rules(x, "a0l1r2b3t5d9a1"), -32);
-        Check.due("P9 the end", Check.rules(x, "a1 l "), -23);
-        Check.due("P9 blanks do not count", Check.rules(x, " a 1 x"), -22);
+        Check.due("P9 the end", Check.rules(x, "a1l"), -23);
         for (int what = 0; what < 10; what++) Check.due("P9 stays", x.set(what, 0), SETTINGS[what]);
         Check.due("P9 a FAULT empties", x.rules(), -20);
-        Check.due("P9 counted", x.status(8), 11);
+        Check.due("P9 counted", x.status(8), 10);
+    }
+
+    private static void rulesFaultsAmongBlanks() {
+        SheGoesOut x = new SheGoesOut();
+        Check.due("P9 one blank", Check.rules(x, " "), -21);
+        Check.due("P9 blanks only", Check.rules(x, "   "), -23);
+        Check.due("P9 the tape full of blanks", Check.rules(x, " ".repeat(160)), -180);
+        Check.due("P9 the end behind a blank", Check.rules(x, "a "), -22);
+        Check.due("P9 the end, blanks among", Check.rules(x, "a1 l "), -25);
+        Check.due("P9 no digit, a blank ahead", Check.rules(x, "a l"), -22);
+        Check.due("P9 no letter, blanks among", Check.rules(x, " a 1 x"), -25);
+        Check.due("P9 two digits, a blank between", Check.rules(x, "a 11"), -23);
+        Check.due("P9 twice, a blank between", Check.rules(x, "a1 a2"), -23);
+        Check.due("P9 a digit first, a blank ahead", Check.rules(x, " 1a"), -21);
+        Check.due("P9 seven, blanks among", Check.rules(x, "a0l1r2 b3t5d9 a1"), -34);
+        for (int what = 0; what < 10; what++) Check.due("P9 stays", x.set(what, SETTINGS[what]), SETTINGS[what]);
+        Check.due("P9 a FAULT empties", x.rules(), -20);
+        Check.due("P9 counted", x.status(8), 12);
+        Check.due("P9 blanks behind", Check.rules(x, "a5  "), 1);
+        Check.due("P9 blanks behind", x.set(0, 0), 5);
     }
 
     private static void clear() {

@@ -157,18 +157,23 @@ final class Reference {
         return true;
     }
 
+    private static String withoutBlanks(String typed) {
+        return typed.replace(" ", "");
+    }
+
     private String takeTape() {
-        String text = tape.replace(" ", "");
+        String typed = tape;
         tape = "";
-        return text;
+        return typed;
     }
 
     int land() {
-        String text = takeTape();
-        for (int i = 0; i < text.length(); i++) {
-            if (!beginsALand(text.substring(0, i + 1))) return no(-20 - i);
+        String typed = takeTape();
+        for (int i = 0; i < typed.length(); i++) {
+            if (!beginsALand(withoutBlanks(typed.substring(0, i + 1)))) return no(-20 - i);
         }
-        if (text.isEmpty() || text.endsWith("/")) return no(-20 - text.length());
+        String text = withoutBlanks(typed);
+        if (text.isEmpty() || text.endsWith("/")) return no(-20 - typed.length());
         int cells = 0;
         String[] rows = text.split("/");
         for (int r = 0; r < rows.length; r++) {
@@ -187,11 +192,12 @@ final class Reference {
     }
 
     int rules() {
-        String text = takeTape();
-        for (int i = 0; i < text.length(); i++) {
-            if (!beginsALaw(text.substring(0, i + 1))) return no(-20 - i);
+        String typed = takeTape();
+        for (int i = 0; i < typed.length(); i++) {
+            if (!beginsALaw(withoutBlanks(typed.substring(0, i + 1)))) return no(-20 - i);
         }
-        if (text.isEmpty() || text.length() % 2 == 1) return no(-20 - text.length());
+        String text = withoutBlanks(typed);
+        if (text.isEmpty() || text.length() % 2 == 1) return no(-20 - typed.length());
         for (int i = 0; i < text.length(); i += 2) w.settings["alrbtd".indexOf(text.charAt(i))] = text.charAt(i + 1) - '0';
         return text.length() / 2;
     }
