@@ -114,6 +114,7 @@ final class LandEdgesTest {
             "told 143 0 = 1; told 142 0 = 0");
         // PARTS, DRAW and SEARCHED stay.
         Edges.edge(2, "KIND of a CELL: what it was. BAD.", "start 9 0; draw 9 4; search 0 9; kind 9 3 = 0; parts 9 5 = 687194767360; told 9 1 = 4; told 9 2 = 1");
+        Edges.edge(2, "KIND of a CELL: what it was. BAD.", "rules \"a0l0r0b0\"; sits 0 0; start 9 0; night 1; kind 9 3; parts 9 4 = ALL; kind 9 4; parts 9 4 = ALL; night 1; parts 9 4 = ALL");
     }
 
     private static void draw() {
@@ -127,6 +128,8 @@ final class LandEdgesTest {
         Edges.edge(4, sentence, "told -1 0 = BAD; told 144 0 = BAD; told MIN 0 = BAD; told MAX 0 = BAD; told 0 -1 = BAD; told 0 3 = BAD; told 0 MIN = BAD",
             "told 0 MAX = BAD; status 0 = 8");
         Edges.edge(4, sentence, "kind 143 7; draw 143 9; start 143 0; 3x search 0 143; told 143 0 = 7; told 143 1 = 9; told 143 2 = 3; told 142 2 = 0");
+        // As often as an object may be asked to.
+        Edges.edge(4, sentence, "start 0 0; 500x search 0 143; told 143 2 = 500; count 6 = 1");
     }
 
     private static void set() {

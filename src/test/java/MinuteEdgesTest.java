@@ -257,6 +257,10 @@ final class MinuteEdgesTest {
             "night 1 = 10", sees(1, 0, 6, 6, 6, 0, 0, 6, 6, 6), "night 1 = 11", sees(1, 0, 6, 6, 6, 0, 0, 6, 6, 6));
         Edges.terms(dog, out, "set 9 0", sees(1, 0, 6, 6, 6, 0, 0, 6, 6, 6));
         Edges.terms(dog, out, "set 9 999; 16x night 60; night 38 = 998; sees 1 0 0 = 12; night 1 = 999; sees 1 0 0 = 6");
+        // A SEARCH sees so, too, and takes so much away.
+        String sitting = "rules \"a0l0r0b0\"; sits 0 0; start 0 0; night 9; parts 0 4 = ALL";
+        Edges.terms(walkers, "set 8 10; set 9 0", sitting, "search 0 0 = 750; parts 0 4 = ALL*4/16; night 1; search 0 0 = 375; parts 0 4 = ALL*4/16*10/16");
+        Edges.terms(dog, "set 8 0; set 9 10", sitting, "search 1 0 = 750; parts 0 4 = ALL*4/16; night 1; search 1 0 = 375; parts 0 4 = ALL*4/16*10/16");
         Edges.terms("EYES 14 14 4 0 10 8 10 0", out, "set 8 0; set 9 0; night 60", sees(2, 0, 14, 14, 4, 0, 10, 8, 10, 0));
         Edges.terms("ASKERS 2 8 2 0 0 2 12 10.", out, "set 8 0; set 9 0; night 60", sees(3, 0, 2, 8, 2, 0, 0, 2, 12, 10));
     }

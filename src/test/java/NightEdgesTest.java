@@ -27,6 +27,10 @@ final class NightEdgesTest {
         for (int kind = 0; kind < 8; kind++) {
             Edges.edge(10, sentence, "kind 143 " + kind + "; start 143 3 = " + (kind == 3 || kind == 4 ? "NOT" : "1"));
         }
+        // She goes out as often as asked; all but the night and what is SEARCHED stays.
+        Edges.edge(10, sentence, ONE_MINUTE, "search 0 1; draw 5 4; set 0 7; set 8 5; set 9 7; sits 2 6; kind 5 2; team 0 0 1; place 5; job 5 0 1; found 0 1 2; measure 1 2",
+            "start 7 2 = 1; count 0 = 0; count 6 = 0; parts 7 2 = ALL; parts 1 1 = 0; parts 12 2 = 0; parts 0 4 = 0; told 5 1 = 4; told 5 0 = 2; set 0 8 = 7",
+            "set 8 0 = 5; set 9 240 = 7; sits 2 3 = 6; count 1 = 1; count 2 = 1; count 3 = 1; count 4 = 1; count 5 = 1");
         // What is refused leaves the night as it is.
         Edges.edge(10, sentence, ONE_MINUTE, "search 0 5; kind 9 3; start 9 0 = NOT; start 9 4 = BAD; count 0 = 1; count 6 = 1; parts 1 1 = ALL/2");
     }
